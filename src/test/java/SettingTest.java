@@ -5,6 +5,7 @@ public final class SettingTest {
     public static void main(String[] args) {
         boxesOfSpots();
         linesAndBorders();
+        linesOfOnePlace();
         onlyKeptWays();
         namesApart();
         greatestSumThenMore();
@@ -67,6 +68,18 @@ public final class SettingTest {
             check.points(map, 0, 1, false, l[0], l[1], l[2], l[3]);
             check.due("keep", map.keep(), 1);
             sets("line " + l[0] + ", " + l[1] + ", " + l[2] + ", " + l[3], map, 7, l[4]);
+        }
+    }
+
+    private static void linesOfOnePlace() {
+        int[][] places = {{107, 100, 1}, {104, 100, 0}, {107, 95, 0}, {105, 96, 1}};
+        for (int[] p : places) {
+            TouchMap map = new TouchMap();
+            named(map, 0, "a", 100, 100, 7);
+            check.points(map, 0, 1, false, p[0], p[1], p[0] + 3, p[1] + 4, p[0], p[1]);
+            check.due("simple", map.simple(0, 5), 2);
+            check.due("keep", map.keep(), 1);
+            sets("drawn as " + p[0] + ", " + p[1] + " alone", map, 7, p[2]);
         }
     }
 

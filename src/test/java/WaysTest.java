@@ -138,6 +138,10 @@ public final class WaysTest {
         check.points(map, 2, 1, false, 10, 10, 7, 6, 30, 10);
         check.due("ahead by 5, askew", map.simple(2, 4), 3);
         check.due("ahead by 5, askew", map.simple(2, 5), 2);
+        check.points(map, 3, 1, false, 10, 10, 9, 15, 11, 10);
+        check.due("5 off the straight line, but more off the end", map.simple(3, 5), 3);
+        check.points(map, 3, 1, false, 10, 10, 10, 15, 11, 10);
+        check.due("5 off the end", map.simple(3, 5), 2);
     }
 
     private static void simpleStartsFromAllPoints() {
