@@ -86,7 +86,10 @@ public final class WaysTest {
 
     private static void simpleTakesTheFewest() {
         TouchMap map = new TouchMap();
-        // going on as far as possible from 0 (to 2) would need one point more than going to 1
+        // going on as far as possible from 0, which is to 2, would need one point more than going to 1
+        check.points(map, 3, 1, false, 0, 5, 10, 4, 20, 2, 30, 6, 40, 4);
+        check.due("not as far as possible", map.simple(3, 2), 3);
+        check.due("not as far as possible", map.drawn(3, 1), 1);
         check.points(map, 0, 1, false, 0, 0, 10, 0, 20, 3, 30, 0, 40, 0);
         check.due("by 3", map.simple(0, 3), 2);
         check.due("by 2", map.simple(0, 2), 3);
