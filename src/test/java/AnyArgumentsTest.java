@@ -36,7 +36,7 @@ public final class AnyArgumentsTest {
         int c = any(random, 401);
         int d = any(random, 401);
         boolean is = random.nextBoolean();
-        switch (random.nextInt(24)) {
+        switch (random.nextInt(25)) {
             case 0 -> map.way(a, c, is && a % 4 == 0);
             case 1, 2, 3 -> inside("point", map.point(a, c, d), -1, 20);
             case 4 -> inside("simple", map.simple(a, b), -1, 20);
@@ -56,10 +56,8 @@ public final class AnyArgumentsTest {
             case 20 -> inside("spot", map.spot(a), -1, 4);
             case 21 -> map.touch(any(random, 8), any(random, 8), is);
             case 22 -> map.apart(any(random, 5), any(random, 5), is);
-            default -> {
-                inside("lay", map.lay(any(random, 9)), -2, 5);
-                inside("texture", map.texture(a), -1, 4);
-            }
+            case 23 -> inside("lay", map.lay(any(random, 9)), -2, 5);
+            default -> inside("texture", map.texture(a), -1, 4);
         }
     }
 
