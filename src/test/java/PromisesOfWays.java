@@ -154,6 +154,11 @@ final class PromisesOfWays {
         s.due("the other one is as it was", map.drawn(1, 1), 2);
         s.due("simple again", map.simple(0, 0), 2);
         s.due("drawn(0, 1)", map.drawn(0, 1), 3);
+        s.due("a point more, askew", map.point(0, 20, 30), 5);
+        s.due("straight on as far as the old ones go", map.turn(0, 2), 0);
+        s.due("and a turn there", map.turn(0, 3), 1);
+        s.points(map, 2, 1, false, 18, 15, 18, 30);
+        s.due("towards the place that was told", map.crossings(0, 2), 1);
     }
 
     private static void pointOfNoWay(Sentences s) {

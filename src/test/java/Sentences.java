@@ -20,24 +20,24 @@ final class Sentences extends Check {
         endSentence();
         now = section + ", \"" + words + "\": ";
         answers = 0;
-        if (document.isRead() && !document.quote(section, words)) {
-            super.due(now + "how often the document says so (2: not just once)", 2, 1);
+        if (document.isRead()) {
+            must("the document says so, once", document.quote(section, words));
         }
     }
 
     private void endSentence() {
-        super.due(now + "it has a test", answers > 0, true);
+        must("it has a test", answers > 0);
+    }
+
+    /** Of the tests themselves: it is no answer of the class that this looks at. */
+    private void must(String what, boolean holds) {
+        super.due(now + what, holds ? 1 : 0, 1);
     }
 
     @Override
     void due(String call, long got, long want) {
         answers++;
         super.due(now + call, got, want);
-    }
-
-    @Override
-    void due(String call, boolean got, boolean want) {
-        due(call, got ? 1 : 0, want ? 1 : 0);
     }
 
     /** The map is and goes on as one that was filled alike and asked nothing since. */
@@ -50,9 +50,10 @@ final class Sentences extends Check {
     @Override
     void end() {
         endSentence();
+        now = "";
         if (document.isRead()) {
             for (String rest : document.unquoted()) {
-                super.due("tests of " + rest, 0, 1);
+                must("a test quotes \"" + rest + "\"", false);
             }
         }
         super.end();
