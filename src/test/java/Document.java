@@ -56,9 +56,11 @@ final class Document {
         return true;
     }
 
-    /** The words of the terms and the promises that no quote holds. */
+    /** The words that no quote holds, but for the section of what is not promised. */
     List<String> unquoted() {
         List<String> found = new ArrayList<>();
+        addUnquoted("What it is", found);
+        addUnquoted("The public face", found);
         addUnquoted("Terms", found);
         for (int promise = 1; promise <= PROMISES; promise++) {
             addUnquoted("Promise " + promise, found);

@@ -83,35 +83,40 @@ final class Plain {
         return places.size();
     }
 
+    /** The fewest are tried first, and of as many the farther ones: so the first that stay within t are the ones asked for. */
     int simple(int w, int t) {
         if (!there(w) || !in(t, 0, 100)) {
             return -1;
         }
-        List<Integer> found = null;
-        int n = ways[w].places.size();
-        for (int mask = 0; mask < 1 << n; mask++) {
-            List<Integer> numbers = new ArrayList<>();
-            for (int i = 0; i < n; i++) {
-                if ((mask >> i & 1) == 1) {
-                    numbers.add(i);
-                }
-            }
-            if ((mask & 1) == 1 && (mask >> n - 1 & 1) == 1 && isWithin(ways[w].places, numbers, t)
-                && (found == null || isSimpler(numbers, found))) {
-                found = numbers;
-            }
+        List<Integer> numbers = new ArrayList<>(List.of(0));
+        int size = 1;
+        while (!tryPoints(ways[w].places, numbers, size, t)) {
+            size++;
         }
-        ways[w].drawn = found;
-        return found.size();
+        ways[w].drawn = numbers;
+        return size;
     }
 
-    private static boolean isWithin(List<Place> places, List<Integer> numbers, int t) {
-        for (int k = 1; k < numbers.size(); k++) {
-            Line line = new Line(places.get(numbers.get(k - 1)), places.get(numbers.get(k)));
-            for (int i = numbers.get(k - 1) + 1; i < numbers.get(k); i++) {
-                if (compareDistance(line, places.get(i), t) > 0) {
-                    return false;
-                }
+    private static boolean tryPoints(List<Place> places, List<Integer> numbers, int size, int t) {
+        int at = numbers.get(numbers.size() - 1);
+        if (numbers.size() == size) {
+            return at == places.size() - 1;
+        }
+        for (int next = places.size() - 1; next > at; next--) {
+            numbers.add(next);
+            if (isWithin(places, at, next, t) && tryPoints(places, numbers, size, t)) {
+                return true;
+            }
+            numbers.remove(numbers.size() - 1);
+        }
+        return false;
+    }
+
+    private static boolean isWithin(List<Place> places, int from, int to, int t) {
+        Line line = new Line(places.get(from), places.get(to));
+        for (int i = from + 1; i < to; i++) {
+            if (compareDistance(line, places.get(i), t) > 0) {
+                return false;
             }
         }
         return true;

@@ -102,10 +102,7 @@ public final class RandomRunsTest {
             due(at + "point", map.point(w, x, y), plain.point(w, x, y));
         } else if (kind < 30) {
             int t = random.nextInt(10) == 0 ? number(101) : random.nextInt(grid * 3);
-            // all choices of 20 points would take too long
-            if (plain.drawn(w, 13) < 0) {
-                due(at + "simple", map.simple(w, t), plain.simple(w, t));
-            }
+            due(at + "simple", map.simple(w, t), plain.simple(w, t));
         } else if (kind < 33) {
             int k = random.nextInt(22) - 1;
             due(at + "drawn", map.drawn(w, k), plain.drawn(w, k));
